@@ -956,7 +956,7 @@ public final class PostmanRounds {
         }
 
         int cost() {
-            return costOfSet(due);
+            return costLeft[due * CORNERS + ways.town.home];
         }
 
         /** What a postman walks who has at least these streets to walk. */
@@ -1055,7 +1055,10 @@ public final class PostmanRounds {
             int left = due;
             size = 0;
             corners[0] = at;
-            while (isFound() && size < STEPS && (left != 0 || at != ways.town.home)) {
+            if (!isFound()) {
+                return;
+            }
+            while (size < STEPS && (left != 0 || at != ways.town.home)) {
                 int street = leastStreet(at, left);
                 if (street < 0) {
                     return;
