@@ -1419,8 +1419,10 @@ public final class PostmanRounds {
         private boolean tell(Town town, int place) {
             switch (at(place)) {
                 case 's': return tellStreet(town, place);
-                case 'h': return tellHome(town, place);
-                default: return tellOfStreet(town, place);
+                case 'k': return tellKind(town, place);
+                case 'l': return tellLength(town, place);
+                case 'x': return tellTurn(town, place);
+                default: return tellHome(town, place);
             }
         }
 
@@ -1444,23 +1446,10 @@ public final class PostmanRounds {
             return true;
         }
 
-        private boolean tellOfStreet(Town town, int place) {
+        private boolean tellKind(Town town, int place) {
             int street = digit(place + 1);
-            if (!town.has(street)) {
-                return false;
-            }
-            switch (at(place)) {
-                case 'k': return tellKind(town, street, place);
-                case 'l': return tellLength(town, street, place);
-                default:
-                    town.openOrClose(street);
-                    return true;
-            }
-        }
-
-        private boolean tellKind(Town town, int street, int place) {
             int kind = digit(place + 2);
-            if (kind < 0 || kind >= KINDS) {
+            if (!town.has(street) || kind < 0 || kind >= KINDS) {
                 return false;
             }
             town.kinds[street] = kind;
@@ -1468,12 +1457,22 @@ public final class PostmanRounds {
             return true;
         }
 
-        private boolean tellLength(Town town, int street, int place) {
+        private boolean tellLength(Town town, int place) {
+            int street = digit(place + 1);
             int length = number(place + 2);
-            if (length < 1) {
+            if (!town.has(street) || length < 1) {
                 return false;
             }
             town.lengths[street] = length;
+            return true;
+        }
+
+        private boolean tellTurn(Town town, int place) {
+            int street = digit(place + 1);
+            if (!town.has(street)) {
+                return false;
+            }
+            town.openOrClose(street);
             return true;
         }
 
