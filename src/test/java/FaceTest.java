@@ -105,6 +105,10 @@ public final class FaceTest {
         if (inside.length > 12) {
             fault(inside.length + " classes inside");
         }
+        Set<String> names = new TreeSet<>();
+        for (String method : FACE) {
+            names.add(method.substring(method.indexOf(' ') + 1, method.indexOf('(')));
+        }
         for (Class<?> c : inside) {
             if (!Modifier.isStatic(c.getModifiers()) || Modifier.isPublic(c.getModifiers())) {
                 fault("a class inside that should not be so: " + c);
@@ -113,6 +117,9 @@ public final class FaceTest {
             for (Method m : c.getDeclaredMethods()) {
                 if (m.getParameterCount() > 7) {
                     fault("too many parameters: " + m);
+                }
+                if (names.contains(m.getName())) {
+                    fault("a method inside with a name of the face: " + m);
                 }
             }
         }
